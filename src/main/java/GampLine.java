@@ -34,9 +34,9 @@ public final class GampLine {
     private static final int MOST_PLANNED = 3;
     private static final int MOST_ANSWERS = 16;
     private static final int MOST_CHANCES = 10;
-    private static final int NO_ONE = 1;
-    private static final int HANDS = 2;
-    private static final int REFUSED = 3;
+    private static final int WHY_NO_SUCH = 1;
+    private static final int WHY_HANDS = 2;
+    private static final int WHY_REFUSED = 3;
 
     private final Reader reader = new Reader();
     private final Line line = new Line();
@@ -891,7 +891,7 @@ public final class GampLine {
         }
 
         private static int bounded(long v) {
-            return (int) Math.max(-BOUND, Math.min(BOUND, v));
+            return v > BOUND ? BOUND : v < -BOUND ? -BOUND : (int) v;
         }
     }
 
@@ -1117,7 +1117,10 @@ public final class GampLine {
             if (at >= length) {
                 kind = TEXT_END;
             } else if (isLetter(tape[at])) {
-                readWord();
+                while (at < length && isLetter(tape[at])) {
+                    at++;
+                }
+                kind = wordFrom(tokenAt, at);
             } else if (isDigit(tape[at])) {
                 readDigits();
             } else if (isSign(tape[at])) {
@@ -1168,13 +1171,6 @@ public final class GampLine {
             if (at - tokenAt > 3) {
                 fail(NO_TOKEN);
             }
-        }
-
-        private void readWord() {
-            while (at < length && isLetter(tape[at])) {
-                at++;
-            }
-            kind = wordFrom(tokenAt, at);
         }
 
         private int wordFrom(int from, int to) {
@@ -1542,11 +1538,11 @@ public final class GampLine {
 
         int tryLeave(Line line, int p) {
             if (!line.hasPerson(p)) {
-                return NO_ONE;
+                return WHY_NO_SUCH;
             }
             int t = heldThing(p);
             if (t == NONE) {
-                return HANDS;
+                return WHY_HANDS;
             }
             where[t] = line.home[p];
             return 0;
@@ -1554,13 +1550,13 @@ public final class GampLine {
 
         int tryFetch(Line line, int p, int t) {
             if (!line.hasPerson(p) || !line.hasThing(t)) {
-                return NO_ONE;
+                return WHY_NO_SUCH;
             }
             if (heldThing(p) != NONE) {
-                return HANDS;
+                return WHY_HANDS;
             }
             if (where[t] != OFFICE || line.claimBy(mark[p], p, t) <= 0) {
-                return REFUSED;
+                return WHY_REFUSED;
             }
             where[t] = HELD + p;
             return 0;
@@ -1568,15 +1564,15 @@ public final class GampLine {
 
         int tryOpen(Line line, int p) {
             if (!line.hasPerson(p)) {
-                return NO_ONE;
+                return WHY_NO_SUCH;
             }
             int t = heldThing(p);
             if (t == NONE) {
-                return HANDS;
+                return WHY_HANDS;
             }
             int then = borne[p] + line.burdenOf(mark[p], p, t, wet, borne[p]);
             if (then > line.bears[p]) {
-                return REFUSED;
+                return WHY_REFUSED;
             }
             borne[p] = then;
             opened[t]++;
@@ -1585,12 +1581,12 @@ public final class GampLine {
 
         int trySwap(Line line, int p, int q) {
             if (!line.hasPerson(p) || !line.hasPerson(q) || p == q) {
-                return NO_ONE;
+                return WHY_NO_SUCH;
             }
             int ofP = heldThing(p);
             int ofQ = heldThing(q);
             if (ofP == NONE || ofQ == NONE) {
-                return HANDS;
+                return WHY_HANDS;
             }
             where[ofP] = HELD + q;
             where[ofQ] = HELD + p;
@@ -1599,7 +1595,7 @@ public final class GampLine {
 
         int tryMark(Line line, int p, int n) {
             if (!line.hasPerson(p) || n < 0 || n >= MARKS) {
-                return NO_ONE;
+                return WHY_NO_SUCH;
             }
             mark[p] = n;
             return 0;
@@ -1612,7 +1608,7 @@ public final class GampLine {
                 return 0;
             }
             if (v < 0 || v >= 400 || v >= 20 && v < 100) {
-                return NO_ONE;
+                return WHY_NO_SUCH;
             }
             int code = (int) v;
             if (code < 20) {
