@@ -287,6 +287,11 @@ public final class DeedPromisesTest {
                 due("judge(0, " + what + ") of deeds " + i, x.judge(0, what), want[i][what]);
             }
         }
+        Check.fill(x, 0, 1, 99);
+        Check.fill(x, 1, 1);
+        due("one that can't be", x.judge(0, 1), 1);
+        due("none that can't be, behind it", x.judge(1, 1), 0);
+        due("its place", x.judge(1, 0), -1);
         long[] forty = new long[40];
         java.util.Arrays.fill(forty, -1);
         forty[39] = 3;

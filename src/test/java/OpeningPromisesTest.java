@@ -48,6 +48,12 @@ public final class OpeningPromisesTest {
         for (int i = 0; i < sets.length; i++) {
             due("opening(0, " + sets[i] + ")", x.opening(0, sets[i]), days[i]);
         }
+        due("one a DAY, of 1", opener("", 1, 1, 1, 1).opening(0, 7), 3);
+        due("one a DAY, of 2", opener("", 2, 2, 2, 2).opening(0, 7), 3);
+        x = Check.told("line 2;thing at 0;thing at 0;person at 0;person at 0;person at 0;opens:who*5;");
+        due("by who it is: 0", x.opening(0, 3), 1);
+        due("by who it is: 1", x.opening(1, 3), 1);
+        due("by who it is: 2", x.opening(2, 3), 2);
         due("99 a DAY", opener("opens:33;", 99, 0, 0, 0, 0, 0, 0, 0).opening(0, 127), 3);
         due("99 at once", opener("opens:99;", 99, 0, 0).opening(0, 3), 2);
         due("what was BORNE makes it lighter", opener("opens:9-borne;", 9, 0, 0, 0, 0).opening(0, 15), 1);

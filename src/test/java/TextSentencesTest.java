@@ -236,14 +236,7 @@ public final class TextSentencesTest {
         due(truth, claim("if " + truth + " then 1 else 0 end"), holds ? 1 : 0);
     }
 
-    private static void truths() {
-        DOC.says("TRUTH: BOTH { or BOTH }; BOTH: UNIT { and UNIT };");
-        follow("line 3;claims:if 1=1", "+ - * and or then");
-        follow("line 3;claims:if 1=1 or", UNITS);
-        follow("line 3;claims:if 1=1 or 1=1", "+ - * and or then");
-        follow("line 3;claims:if 1=1 and", UNITS);
-        follow("line 3;claims:if 1=1 and 1=1", "+ - * and or then");
-        String[] units = {"0=1", "0=0"};
+    private static void mixed(String[] units) {
         for (int bits = 0; bits < 16; bits++) {
             boolean a = (bits & 1) > 0;
             boolean b = (bits & 2) > 0;
@@ -255,6 +248,20 @@ public final class TextSentencesTest {
             truth(u[0] + " and " + u[1] + " and " + u[2] + " and " + u[3], a && b && c && d);
             truth(u[0] + " or " + u[1] + " or " + u[2] + " or " + u[3], a || b || c || d);
             truth("not " + u[0] + " and [" + u[1] + " or not [" + u[2] + " and " + u[3] + "]]", !a && (b || !(c && d)));
+            truth(u[0] + " and 0=0", a);
+            truth("0=0 and not " + u[0], !a);
+        }
+    }
+
+    private static void truths() {
+        DOC.says("TRUTH: BOTH { or BOTH }; BOTH: UNIT { and UNIT };");
+        follow("line 3;claims:if 1=1", "+ - * and or then");
+        follow("line 3;claims:if 1=1 or", UNITS);
+        follow("line 3;claims:if 1=1 or 1=1", "+ - * and or then");
+        follow("line 3;claims:if 1=1 and", UNITS);
+        follow("line 3;claims:if 1=1 and 1=1", "+ - * and or then");
+        for (String[] units : new String[][] {{"0=1", "0=0"}, {"1<0", "0<1"}, {"0>1", "1>0"}}) {
+            mixed(units);
         }
         DOC.says("UNIT: not UNIT, [ TRUTH ], or SUM, one of = < >, SUM.");
         follow("line 3;claims:if not", UNITS);
@@ -460,6 +467,16 @@ public final class TextSentencesTest {
         Check.tell(x, "line 2;thing at 0 weight 7;person at 0;");
         due("no law of claims in another text", x.claims(0, 0), 1);
         due("no law of opens in another text", x.burden(0, 0), 7);
+        x = Check.told("line 2;thing at 0 weight 7;person at 0;opens:5;claims:5;");
+        Check.tell(x, "line 2;thing at 0 weight 7;person at 0;");
+        due("no law of claims in another text", x.claims(0, 0), 1);
+        due("no law of opens in another text", x.burden(0, 0), 7);
+        x = new GampLine();
+        for (int i = 0; i < 12; i++) {
+            Check.tell(x, "line 2;thing at 0;person at 0;claims:" + i + "+1".repeat(100) + ";opens:" + i + "+1".repeat(50) + ";");
+            due("the law of text " + i, x.claims(0, 0), i + 100);
+            due("the other one", x.burden(0, 0), i + 50);
+        }
     }
 
     private static void tokens() {

@@ -230,6 +230,16 @@ public final class WhosePromisesTest {
             Check.fill(x, 1, 3, two);
             due("two are alike", x.plan(1, 0), -3);
         }
+        x = Check.told("line 3;" + "thing at 0;".repeat(8) + "person at 1;".repeat(6));
+        x.numbers(1, 3, 2);
+        for (int a = 0; a < 80; a++) {
+            for (int b = 0; b < 80; b++) {
+                x.write(1, 0, a);
+                x.write(1, 1, b);
+                boolean can = a % 10 < 6 && b % 10 < 6 && a / 10 != b / 10 && a % 10 != b % 10;
+                due(a + " and " + b, x.plan(1, 0) == -3 ? 1 : 0, can ? 0 : 1);
+            }
+        }
         for (int n = 1; n <= 3; n++) {
             Check.fill(x, 1, 3, java.util.Arrays.copyOf(new long[] {0, 11, 22}, n));
             for (int i : new int[] {-1, n, 3, 40, Integer.MAX_VALUE, Integer.MIN_VALUE}) {
@@ -289,6 +299,8 @@ public final class WhosePromisesTest {
         x = Check.told("line 2;person at 0;");
         due("without THINGS", x.match(0), 0);
         due("none is given", x.match(10), -1);
+        due("0 isn't above 0", claiming(new int[][] {{0}}).match(10), -1);
+        due("0 isn't above 0, beside others", claiming(new int[][] {{0, 0}, {5, 0}}).match(10), -1);
         x = Check.told("line 2;" + "thing at 0;".repeat(8) + "person at 0;".repeat(6) + "claims:999*999*999;");
         due("the greatest sum there is", x.match(0), 6000000);
         for (int p = 0; p < 6; p++) {
@@ -329,6 +341,10 @@ public final class WhosePromisesTest {
         due("asked twice", x.matchings() + x.matchings(), 4);
         Check.tell(x, "line 2;thing at 0;person at 0;");
         due("of another line", x.matchings(), 1);
+        Check.tell(x, "line 2;" + "thing at 0;".repeat(8) + "person at 0;".repeat(6) + "claims:7;");
+        due("THE MATCHING of six", x.match(0), 42);
+        Check.tell(x, "line 2;" + "thing at 0;".repeat(8) + "person at 0;");
+        due("of one, behind that", x.matchings(), 8);
     }
 
     private static void without() {
@@ -418,7 +434,13 @@ public final class WhosePromisesTest {
         due("trade(3): 2 isn't HELD", x.trade(3), 3);
         due("nothing is done", x.person(0, 3), 3);
         due("no call", x.count(7), 0);
-        x.mark(0, 1);
+        for (int last = 0; last < 6; last++) {
+            // All but one keep their own; that one wants another one's, and is left with its own.
+            GampLine y = sixHolders("if who=" + last + " then if thing=who then 1 else 2 end else if thing=who then 9 else 0 end end");
+            due("the one left, " + last, y.trade(last), last);
+            due("in two ROUNDS", y.rounds(), 2);
+            due("nobody trades", y.traders(), 0);
+        }
         DOC.says("NONE: it HOLDS none; -2.");
         due("trade(1)", x.trade(1), -1);
         for (int p : new int[] {-1, 4, 6, Integer.MAX_VALUE, Integer.MIN_VALUE}) {
@@ -491,6 +513,9 @@ public final class WhosePromisesTest {
             }
         }
         due("the least of all", sixHolders("if who=thing then 0 else 1 end").bargain(), 1);
+        due("the second HOLDS THING 0", holding(new int[] {1, 0}, new int[][] {{2, 1}, {1, 2}}).bargain(), 1);
+        due("one who HOLDS none would like to", holding(new int[] {-1, 0}, new int[][] {{5}, {-5}}).bargain(), -1);
+        due("one who HOLDS none would like to", holding(new int[] {0, -1}, new int[][] {{-5}, {5}}).bargain(), -1);
         due("the least of two", sixHolders("if who+thing=5 then 1 else 0 end").bargain(), 5);
         due("below 0", holding(new int[] {0, 1}, new int[][] {{-2, -1}, {-1, -2}}).bargain(), 1);
         DOC.says("NONE: none do.");
