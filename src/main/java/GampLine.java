@@ -271,33 +271,18 @@ public final class GampLine {
     // ---- left
 
     public int goes(int t, int station) {
-        if (!line.hasThing(t) || !line.hasStation(station)) {
-            return NO_SUCH;
-        }
-        claims.gather(line, now);
-        left.begin(now);
-        left.add(t, now);
-        left.start(0, station);
-        left.travel(line, claims);
-        return left.taker[0];
+        return canBeLeft(t, station) ? left.taker[0] : NO_SUCH;
     }
 
     public int takes(int t, int station) {
-        if (!line.hasThing(t) || !line.hasStation(station)) {
-            return NO_SUCH;
-        }
-        claims.gather(line, now);
-        left.begin(now);
-        left.add(t, now);
-        left.start(0, station);
-        left.travel(line, claims);
-        return left.days[0];
+        return canBeLeft(t, station) ? left.days[0] : NO_SUCH;
     }
 
     public int sources(int t, int p) {
         if (!line.hasThing(t) || !line.hasPerson(p)) {
             return NO_SUCH;
         }
+        // The claims are the same from each station: they are gathered once.
         claims.gather(line, now);
         left.begin(now);
         left.add(t, now);
@@ -669,6 +654,19 @@ public final class GampLine {
             return NO_SUCH;
         }
         return trays[tray].isMissing() ? MISSING : 0;
+    }
+
+    /** Whether there are such a thing and such a station; if so, the thing has gone its way from there. */
+    private boolean canBeLeft(int t, int station) {
+        if (!line.hasThing(t) || !line.hasStation(station)) {
+            return false;
+        }
+        claims.gather(line, now);
+        left.begin(now);
+        left.add(t, now);
+        left.start(0, station);
+        left.travel(line, claims);
+        return true;
     }
 
     private int planCode(int tray) {

@@ -29,18 +29,10 @@ public final class OpeningPromisesTest {
         DOC.due(call, got, want);
     }
 
-    private static GampLine opener(String law, int bears, int... weights) {
-        StringBuilder s = new StringBuilder("line 2;");
-        for (int w : weights) {
-            s.append("thing at 0 weight ").append(w).append(';');
-        }
-        return Check.told(s + "person at 0 bears " + bears + ";" + law);
-    }
-
     private static void opening() {
         DOC.promise(33);
         DOC.says("OPENING: the fewest DAYS.");
-        GampLine x = opener("", 12, 9, 8, 7, 6, 5, 4, 3, 2);
+        GampLine x = Lines.opener("", 12, 9, 8, 7, 6, 5, 4, 3, 2);
         // 44 in all: by 12 a day at least 4, and 9 + 3, 8 + 4, 7 + 5, 6 + 2 are four.
         due("all of them", x.opening(0, 255), 4);
         int[] sets = {0, 1, 2, 3, 65, 128, 129, 131, 240, 248};
@@ -48,27 +40,27 @@ public final class OpeningPromisesTest {
         for (int i = 0; i < sets.length; i++) {
             due("opening(0, " + sets[i] + ")", x.opening(0, sets[i]), days[i]);
         }
-        due("one a DAY, of 1", opener("", 1, 1, 1, 1).opening(0, 7), 3);
-        due("one a DAY, of 2", opener("", 2, 2, 2, 2).opening(0, 7), 3);
+        due("one a DAY, of 1", Lines.opener("", 1, 1, 1, 1).opening(0, 7), 3);
+        due("one a DAY, of 2", Lines.opener("", 2, 2, 2, 2).opening(0, 7), 3);
         x = Check.told("line 2;thing at 0;thing at 0;person at 0;person at 0;person at 0;opens:who*5;");
         due("by who it is: 0", x.opening(0, 3), 1);
         due("by who it is: 1", x.opening(1, 3), 1);
         due("by who it is: 2", x.opening(2, 3), 2);
-        due("99 a DAY", opener("opens:33;", 99, 0, 0, 0, 0, 0, 0, 0).opening(0, 127), 3);
-        due("99 at once", opener("opens:99;", 99, 0, 0).opening(0, 3), 2);
-        due("what was BORNE makes it lighter", opener("opens:9-borne;", 9, 0, 0, 0, 0).opening(0, 15), 1);
-        due("what was BORNE makes it heavier", opener("opens:borne+1;", 7, 0, 0, 0, 0, 0).opening(0, 31), 2);
+        due("99 a DAY", Lines.opener("opens:33;", 99, 0, 0, 0, 0, 0, 0, 0).opening(0, 127), 3);
+        due("99 at once", Lines.opener("opens:99;", 99, 0, 0).opening(0, 3), 2);
+        due("what was BORNE makes it lighter", Lines.opener("opens:9-borne;", 9, 0, 0, 0, 0).opening(0, 15), 1);
+        due("what was BORNE makes it heavier", Lines.opener("opens:borne+1;", 7, 0, 0, 0, 0, 0).opening(0, 31), 2);
         due("a light one first makes all others light",
-            opener("opens:if thing=3 then 1 else if borne>0 then 2 else 9 end end;", 9, 0, 0, 0, 0).opening(0, 15), 1);
+            Lines.opener("opens:if thing=3 then 1 else if borne>0 then 2 else 9 end end;", 9, 0, 0, 0, 0).opening(0, 15), 1);
     }
 
     private static void openingRefused() {
         DOC.says("NONE: it can't; -2; -3: the set has others than THINGS.");
-        GampLine x = opener("", 5, 5, 6);
+        GampLine x = Lines.opener("", 5, 5, 6);
         due("it can", x.opening(0, 1), 1);
         due("it can't", x.opening(0, 2), -1);
         due("one of two it can't", x.opening(0, 3), -1);
-        due("it bears 0", opener("", 0, 1).opening(0, 1), -1);
+        due("it bears 0", Lines.opener("", 0, 1).opening(0, 1), -1);
         for (int p : new int[] {-1, 1, 6, Integer.MAX_VALUE, Integer.MIN_VALUE}) {
             due("opening(" + p + ", 1)", x.opening(p, 1), -2);
             due("opening(" + p + ", 0)", x.opening(p, 0), -2);
@@ -78,8 +70,8 @@ public final class OpeningPromisesTest {
         }
         due("THINGS 0 and 1 alone", x.opening(0, 4), -3);
         due("THINGS 0 and 1 alone", x.opening(0, 7), -3);
-        due("all eight", opener("opens:0;", 0, 0, 0, 0, 0, 0, 0, 0, 0).opening(0, 255), 1);
-        due("a ninth", opener("opens:0;", 0, 0, 0, 0, 0, 0, 0, 0, 0).opening(0, 256), -3);
+        due("all eight", Lines.opener("opens:0;", 0, 0, 0, 0, 0, 0, 0, 0, 0).opening(0, 255), 1);
+        due("a ninth", Lines.opener("opens:0;", 0, 0, 0, 0, 0, 0, 0, 0, 0).opening(0, 256), -3);
         due("no THINGS at all", Check.told("line 2;person at 0;").opening(0, 0), 0);
         due("no THINGS at all", Check.told("line 2;person at 0;").opening(0, 1), -3);
     }
@@ -95,13 +87,13 @@ public final class OpeningPromisesTest {
         DOC.promise(34);
         DOC.says("The i-th THING it opens so.");
         // 9 alone, 8 + 4, 7 + 5, 6 + 3 + 2.
-        order(opener("", 12, 9, 8, 7, 6, 5, 4, 3, 2), 255, 0, 1, 5, 2, 4, 3, 6, 7);
-        order(opener("", 9, 5, 5, 4, 4), 15, 0, 2, 1, 3);
-        order(opener("", 9, 5, 5, 4, 4), 14, 1, 2, 3);
-        order(opener("", 9, 5, 5, 4, 4), 8, 3);
-        order(opener("", 99, 9, 9, 9, 9, 9, 9, 9, 9), 255, 0, 1, 2, 3, 4, 5, 6, 7);
-        order(opener("opens:if thing=3 then 1 else if borne>0 then 2 else 9 end end;", 9, 0, 0, 0, 0), 15, 3, 0, 1, 2);
-        order(opener("opens:if borne=0 then 9-thing else 9 end;", 9, 0, 0, 0, 0), 15, 0, 1, 2, 3);
+        order(Lines.opener("", 12, 9, 8, 7, 6, 5, 4, 3, 2), 255, 0, 1, 5, 2, 4, 3, 6, 7);
+        order(Lines.opener("", 9, 5, 5, 4, 4), 15, 0, 2, 1, 3);
+        order(Lines.opener("", 9, 5, 5, 4, 4), 14, 1, 2, 3);
+        order(Lines.opener("", 9, 5, 5, 4, 4), 8, 3);
+        order(Lines.opener("", 99, 9, 9, 9, 9, 9, 9, 9, 9), 255, 0, 1, 2, 3, 4, 5, 6, 7);
+        order(Lines.opener("opens:if thing=3 then 1 else if borne>0 then 2 else 9 end end;", 9, 0, 0, 0, 0), 15, 3, 0, 1, 2);
+        order(Lines.opener("opens:if borne=0 then 9-thing else 9 end;", 9, 0, 0, 0, 0), 15, 0, 1, 2, 3);
         // By its mark, by who it is.
         GampLine x = Check.told("line 2;thing at 0 weight 1;thing at 0 weight 8;thing at 0 weight 9;person at 0;person at 0 bears 9;"
             + "opens:weight+mark;");
@@ -115,7 +107,7 @@ public final class OpeningPromisesTest {
 
     private static void openedByRefused() {
         DOC.says("NONE: not so many, it can't; -2; -3: the set, i is below 0.");
-        GampLine x = opener("", 5, 5, 6);
+        GampLine x = Lines.opener("", 5, 5, 6);
         for (int i : new int[] {1, 2, 8, Integer.MAX_VALUE}) {
             due("not so many: openedBy(0, 1, " + i + ")", x.openedBy(0, 1, i), -1);
         }
@@ -140,7 +132,7 @@ public final class OpeningPromisesTest {
     private static void inADay() {
         DOC.promise(35);
         DOC.says("The most THINGS of a set that it can open on one dry DAY, the least set of like ones, as bits.");
-        GampLine x = opener("wet 10;opens:weight+wet*50;", 10, 4, 3, 3, 5, 9, 1);
+        GampLine x = Lines.opener("wet 10;opens:weight+wet*50;", 10, 4, 3, 3, 5, 9, 1);
         due("the least set: 0 1 2, not 1 2 5", x.inADay(0, 63), 7);
         due("without 0: 1 2 5", x.inADay(0, 62), 2 + 4 + 32);
         due("without 5", x.inADay(0, 31), 7);
@@ -149,11 +141,11 @@ public final class OpeningPromisesTest {
         due("of none", x.inADay(0, 0), 0);
         x.days(1);
         due("dry, though it is WET", x.inADay(0, 31), 7);
-        due("it bears none", opener("", 0, 1, 2).inADay(0, 3), 0);
-        due("but those of 0", opener("", 0, 1, 0).inADay(0, 3), 2);
-        due("all of them", opener("", 99, 9, 9, 9, 9, 9, 9, 9, 9).inADay(0, 255), 255);
-        due("the least of like ones", opener("", 4, 4, 4, 4, 4, 4, 4, 4, 4).inADay(0, 254), 2);
-        due("in an order that can be", opener("opens:if borne>0 then 9 else thing end;", 9, 0, 0, 0).inADay(0, 7), 3);
+        due("it bears none", Lines.opener("", 0, 1, 2).inADay(0, 3), 0);
+        due("but those of 0", Lines.opener("", 0, 1, 0).inADay(0, 3), 2);
+        due("all of them", Lines.opener("", 99, 9, 9, 9, 9, 9, 9, 9, 9).inADay(0, 255), 255);
+        due("the least of like ones", Lines.opener("", 4, 4, 4, 4, 4, 4, 4, 4, 4).inADay(0, 254), 2);
+        due("in an order that can be", Lines.opener("opens:if borne>0 then 9 else thing end;", 9, 0, 0, 0).inADay(0, 7), 3);
         x = Check.told("line 2;thing at 0 weight 6;person at 0 bears 6 holds 0;");
         x.open(0);
         due("whatever it has BORNE now", x.inADay(0, 1), 1);
@@ -161,7 +153,7 @@ public final class OpeningPromisesTest {
 
     private static void inADayRefused() {
         DOC.says("-2; -3: the set.");
-        GampLine x = opener("", 5, 5, 6);
+        GampLine x = Lines.opener("", 5, 5, 6);
         for (int p : new int[] {-1, 1, 6, Integer.MAX_VALUE, Integer.MIN_VALUE}) {
             due("inADay(" + p + ", 1)", x.inADay(p, 1), -2);
         }

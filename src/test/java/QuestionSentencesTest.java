@@ -28,35 +28,6 @@ public final class QuestionSentencesTest {
         DOC.due(call, got, want);
     }
 
-    /** A law by which person p claims thing t as much as stands there. */
-    private static String law(int[][] claims) {
-        StringBuilder s = new StringBuilder("claims:0");
-        for (int p = 0; p < claims.length; p++) {
-            for (int t = 0; t < claims[p].length; t++) {
-                int v = claims[p][t];
-                if (v != 0) {
-                    s.append(v < 0 ? "-" : "+").append("if who*8+thing=").append(8 * p + t).append(" then ")
-                        .append(Math.abs(v)).append(" else 0 end");
-                }
-            }
-        }
-        return s.append(';').toString();
-    }
-
-    private static GampLine claiming(int[][] claims) {
-        return Check.told("line 2;" + "thing at 0;".repeat(claims[0].length) + "person at 0;".repeat(claims.length)
-            + law(claims));
-    }
-
-    /** As claiming(), but person p holds thing held[p], none if it is below 0. */
-    private static GampLine holding(int[] held, int[][] claims) {
-        StringBuilder s = new StringBuilder("line 2;" + "thing at 0;".repeat(claims[0].length));
-        for (int t : held) {
-            s.append("person at 0").append(t < 0 ? "" : " holds " + t).append(';');
-        }
-        return Check.told(s + law(claims));
-    }
-
     private static void left() {
         DOC.says("LEFT: a THING on the RACK at a STATION (who HELD it HOLDS none), all else as now,"
             + " no other THINGS on RACKS, DAYS go by: who takes it, or the OFFICE.");
@@ -145,22 +116,22 @@ public final class QuestionSentencesTest {
 
     private static void theMatching() {
         DOC.says("THE MATCHING: THINGS given to PEOPLE, one each at most, each CLAIMED (above 0): the greatest sum of CLAIMS,");
-        GampLine x = claiming(new int[][] {{9, 8}, {8, 1}});
+        GampLine x = Lines.claiming(new int[][] {{9, 8}, {8, 1}});
         due("not who CLAIMS most first", x.match(0), 16);
         due("0 is given", x.match(10), 1);
         due("1 is given", x.match(11), 0);
-        x = claiming(new int[][] {{5, -9}, {7, 0}, {0, -1}});
+        x = Lines.claiming(new int[][] {{5, -9}, {7, 0}, {0, -1}});
         due("those CLAIMED alone", x.match(0), 7);
         due("none", x.match(10), -1);
         due("0", x.match(11), 0);
         due("none", x.match(12), -1);
-        x = claiming(new int[][] {{3, 4, 5}});
+        x = Lines.claiming(new int[][] {{3, 4, 5}});
         due("one each at most", x.match(0), 5);
         due("the best of them", x.match(10), 2);
         x = Check.told("line 2;" + "thing at 0;".repeat(8) + "person at 0;".repeat(6) + "claims:(thing-who)*(thing-who);");
         // 0, 1 and 2 far to the right, 5, 4 and 3 far to the left.
         due("six of eight", x.match(0), 49 + 25 + 9 + 25 + 9 + 1);
-        x = holding(new int[] {0, -1}, new int[][] {{1, 2}, {4, 1}});
+        x = Lines.holding(new int[] {0, -1}, new int[][] {{1, 2}, {4, 1}});
         due("wherever they are now", x.match(0), 6);
         x.days(3);
         due("in the OFFICE, too", x.match(0), 6);
@@ -168,21 +139,21 @@ public final class QuestionSentencesTest {
 
     private static void likeMatchings() {
         DOC.says("of like ones the first by PEOPLE (the THING of less number first, none behind all).");
-        GampLine x = claiming(new int[][] {{1, 1, 1}, {1, 1, 1}});
+        GampLine x = Lines.claiming(new int[][] {{1, 1, 1}, {1, 1, 1}});
         due("less number first", x.match(10), 0);
         due("the next one", x.match(11), 1);
-        x = claiming(new int[][] {{2, 1}, {2, 1}});
+        x = Lines.claiming(new int[][] {{2, 1}, {2, 1}});
         due("0 has the better one", x.match(10), 0);
         due("1 the other one", x.match(11), 1);
-        x = claiming(new int[][] {{3}, {3}, {3}});
+        x = Lines.claiming(new int[][] {{3}, {3}, {3}});
         due("none behind all: 0", x.match(10), 0);
         due("none behind all: 1", x.match(11), -1);
         due("none behind all: 2", x.match(12), -1);
-        x = claiming(new int[][] {{1, 3}, {2, 0}, {0, 2}});
+        x = Lines.claiming(new int[][] {{1, 3}, {2, 0}, {0, 2}});
         // 3 + 2, or 1 + 2 and 2 + ..: {1, 0} = 5, {0, -, 1} = 3, {-, 0, 1} = 4.
         due("the sum", x.match(0), 5);
         due("a greater sum is ahead of a first THING", x.match(10), 1);
-        x = claiming(new int[][] {{2, 3}, {1, 2}});
+        x = Lines.claiming(new int[][] {{2, 3}, {1, 2}});
         due("both ways come to 4", x.match(0), 4);
         due("the first by PERSON 0", x.match(10), 0);
         due("what is left", x.match(11), 1);
@@ -191,19 +162,19 @@ public final class QuestionSentencesTest {
     private static void pointing() {
         DOC.says("TRADE of all who HOLD one: each points to the THING it CLAIMS most of those that are HELD"
             + " (of like ones its own, else the first);");
-        GampLine x = holding(new int[] {0, 1, -1}, new int[][] {{1, 2, 9}, {2, 1, 9}, {9, 9, 9}});
+        GampLine x = Lines.holding(new int[] {0, 1, -1}, new int[][] {{1, 2, 9}, {2, 1, 9}, {9, 9, 9}});
         due("of those that are HELD", x.trade(0), 1);
         due("the other one", x.trade(1), 0);
         due("who HOLDS none has none", x.trade(2), -1);
-        x = holding(new int[] {1, 0}, new int[][] {{3, 3}, {3, 3}});
+        x = Lines.holding(new int[] {1, 0}, new int[][] {{3, 3}, {3, 3}});
         due("of like ones its own", x.trade(0), 1);
         due("of like ones its own", x.trade(1), 0);
-        x = holding(new int[] {2, 1, 0}, new int[][] {{5, 5, 1}, {9, 1, 2}, {0, 0, 7}});
+        x = Lines.holding(new int[] {2, 1, 0}, new int[][] {{5, 5, 1}, {9, 1, 2}, {0, 0, 7}});
         // 0 points to THING 0, which 2 HOLDS; 2 points to THING 2: a RING of both.
         due("else the first THING", x.trade(0), 0);
         due("2 has 2", x.trade(2), 2);
         due("1 is left with its own", x.trade(1), 1);
-        x = holding(new int[] {0, 1}, new int[][] {{-5, -4}, {-4, -5}});
+        x = Lines.holding(new int[] {0, 1}, new int[][] {{-5, -4}, {-4, -5}});
         due("most, if all are below 0", x.trade(0), 1);
     }
 
@@ -217,11 +188,11 @@ public final class QuestionSentencesTest {
         }
         due("in one ROUND", x.rounds(), 1);
         due("all of them", x.traders(), 63);
-        x = holding(new int[] {0, 1}, new int[][] {{9, 1}, {9, 1}});
+        x = Lines.holding(new int[] {0, 1}, new int[][] {{9, 1}, {9, 1}});
         due("one that points to its own", x.trade(0), 0);
         due("is gone with it", x.trade(1), 1);
         DOC.says("those left point anew, till none is left.");
-        x = holding(new int[] {0, 1, 2, 3}, new int[][] {{9, 0, 0, 0}, {9, 0, 5, 0}, {9, 5, 0, 0}, {9, 8, 7, 0}});
+        x = Lines.holding(new int[] {0, 1, 2, 3}, new int[][] {{9, 0, 0, 0}, {9, 0, 5, 0}, {9, 5, 0, 0}, {9, 8, 7, 0}});
         due("0 has its own", x.trade(0), 0);
         due("1 has 2", x.trade(1), 2);
         due("2 has 1", x.trade(2), 1);
@@ -231,22 +202,14 @@ public final class QuestionSentencesTest {
 
     private static void rounds() {
         DOC.says("(In each ROUND all RINGS there are go.)");
-        GampLine x = holding(new int[] {0, 1, 2, 3, 4}, new int[][] {{0, 1, 0, 0, 0}, {1}, {0, 0, 0, 1},
+        GampLine x = Lines.holding(new int[] {0, 1, 2, 3, 4}, new int[][] {{0, 1, 0, 0, 0}, {1}, {0, 0, 0, 1},
             {0, 0, 1}, {0, 0, 0, 0, 1}});
         due("three RINGS in one ROUND", x.rounds(), 1);
         due("four of them trade", x.traders(), 15);
-        x = holding(new int[] {0, 1, 2}, new int[][] {{5, 0, 0}, {6, 5, 0}, {7, 6, 5}});
+        x = Lines.holding(new int[] {0, 1, 2}, new int[][] {{5, 0, 0}, {6, 5, 0}, {7, 6, 5}});
         due("three RINGS in three ROUNDS", x.rounds(), 3);
         due("nobody trades", x.traders(), 0);
-        due("none HOLD one: no ROUND", holding(new int[] {-1, -1}, new int[][] {{1}, {1}}).rounds(), 0);
-    }
-
-    private static GampLine opener(String law, int bears, int... weights) {
-        StringBuilder s = new StringBuilder("line 2;");
-        for (int w : weights) {
-            s.append("thing at 0 weight ").append(w).append(';');
-        }
-        return Check.told(s + "person at 0 bears " + bears + ";wet 10;" + law);
+        due("none HOLD one: no ROUND", Lines.holding(new int[] {-1, -1}, new int[][] {{1}, {1}}).rounds(), 0);
     }
 
     private static void order(GampLine x, int set, int... want) {
@@ -258,39 +221,39 @@ public final class QuestionSentencesTest {
 
     private static void opening() {
         DOC.says("OPENING of a set of THINGS by a PERSON: it opens one behind the other, dry;");
-        GampLine x = opener("opens:weight+wet*90;", 10, 3, 4, 5);
+        GampLine x = Lines.opener("wet 10;opens:weight+wet*90;", 10, 3, 4, 5);
         due("dry", x.opening(0, 7), 2);
         x.days(1);
         due("dry, though it is WET", x.opening(0, 7), 2);
         due("of a set", x.opening(0, 6), 1);
         due("of another set", x.opening(0, 4), 1);
         DOC.says("at the beginning of each DAY it has BORNE 0;");
-        x = opener("opens:if borne=0 then 1 else 5 end;", 6, 0, 0, 0, 0);
+        x = Lines.opener("wet 10;opens:if borne=0 then 1 else 5 end;", 6, 0, 0, 0, 0);
         // 1 + 5 a DAY.
         due("two a DAY", x.opening(0, 15), 2);
         x = Check.told("line 2;thing at 0 weight 6;person at 0 bears 6 holds 0;");
         x.open(0);
         due("whatever it has BORNE now", x.opening(0, 1), 1);
         DOC.says("the fewest DAYS,");
-        due("in four DAYS of 10", opener("", 10, 9, 8, 7, 6, 1, 2, 3, 4).opening(0, 255), 4);
-        due("in a DAY less than one by one", opener("", 9, 5, 5, 4, 4).opening(0, 15), 2);
-        due("8 DAYS", opener("", 9, 9, 9, 9, 9, 9, 9, 9, 9).opening(0, 255), 8);
+        due("in four DAYS of 10", Lines.opener("wet 10;", 10, 9, 8, 7, 6, 1, 2, 3, 4).opening(0, 255), 4);
+        due("in a DAY less than one by one", Lines.opener("wet 10;", 9, 5, 5, 4, 4).opening(0, 15), 2);
+        due("8 DAYS", Lines.opener("wet 10;", 9, 9, 9, 9, 9, 9, 9, 9, 9).opening(0, 255), 8);
         // 0 and 1 can follow one another, but 2 must follow just one of them.
-        x = opener("opens:if thing=2 then if borne=1 then 1 else 99 end else if borne<2 then 1 else 99 end end;", 9, 0, 0, 0);
+        x = Lines.opener("wet 10;opens:if thing=2 then if borne=1 then 1 else 99 end else if borne<2 then 1 else 99 end end;", 9, 0, 0, 0);
         due("a DAY may end though it could go on", x.opening(0, 7), 2);
         order(x, 7, 0, 1, 2);
     }
 
     private static void openingInOrder() {
         DOC.says("of like ones the first by THINGS");
-        order(opener("", 10, 4, 3, 6, 7), 15, 0, 2, 1, 3);
-        order(opener("", 10, 1, 1, 1, 1), 15, 0, 1, 2, 3);
-        order(opener("", 5, 5, 4, 1), 7, 0, 1, 2);
-        order(opener("", 5, 4, 5, 1), 7, 0, 2, 1);
-        order(opener("opens:if borne=0 then weight else 0 end;", 5, 3, 5, 1), 7, 0, 1, 2);
-        order(opener("opens:if borne>0 then 9 else weight end;", 5, 3, 5, 0), 7, 0, 2, 1);
+        order(Lines.opener("wet 10;", 10, 4, 3, 6, 7), 15, 0, 2, 1, 3);
+        order(Lines.opener("wet 10;", 10, 1, 1, 1, 1), 15, 0, 1, 2, 3);
+        order(Lines.opener("wet 10;", 5, 5, 4, 1), 7, 0, 1, 2);
+        order(Lines.opener("wet 10;", 5, 4, 5, 1), 7, 0, 2, 1);
+        order(Lines.opener("wet 10;opens:if borne=0 then weight else 0 end;", 5, 3, 5, 1), 7, 0, 1, 2);
+        order(Lines.opener("wet 10;opens:if borne>0 then 9 else weight end;", 5, 3, 5, 0), 7, 0, 2, 1);
         DOC.says("(1 DAY at least; no THINGS: 0).");
-        GampLine x = opener("opens:0;", 0, 9, 9);
+        GampLine x = Lines.opener("wet 10;opens:0;", 0, 9, 9);
         due("BURDENS of 0", x.opening(0, 3), 1);
         due("one of 0", x.opening(0, 2), 1);
         due("no THINGS", x.opening(0, 0), 0);
@@ -323,7 +286,7 @@ public final class QuestionSentencesTest {
 
     private static void choosing() {
         DOC.says("CHOOSING: two PEOPLE by turns take one of a set of THINGS each, till none is left:");
-        GampLine x = claiming(new int[][] {{1, 1, 1, 1, 1}, {0, 0, 0, 0, 0}});
+        GampLine x = Lines.claiming(new int[][] {{1, 1, 1, 1, 1}, {0, 0, 0, 0, 0}});
         int[] first = {0, 1, 1, 2, 2, 3};
         int[] second = {0, 0, -1, -1, -2, -2};
         for (int n = 0; n <= 5; n++) {
@@ -331,17 +294,17 @@ public final class QuestionSentencesTest {
             due("the second one takes of " + n, x.game(1, 0, (1 << n) - 1), second[n]);
         }
         DOC.says("as much as the first one CLAIMS those it took together, less as much as the second one CLAIMS those it took:");
-        x = claiming(new int[][] {{7, 3, 2}, {7, 4, 1}});
+        x = Lines.claiming(new int[][] {{7, 3, 2}, {7, 4, 1}});
         due("7 - 4 + 2", x.game(0, 1, 7), 5);
         due("7 - 3 + 1", x.game(1, 0, 7), 5);
         due("of some: 3 - 1", x.game(0, 1, 6), 2);
-        x = claiming(new int[][] {{-5, -2}, {-3, -1}});
+        x = Lines.claiming(new int[][] {{-5, -2}, {-3, -1}});
         due("it must take: -2 + 3", x.game(0, 1, 3), 1);
         DOC.says("the first one plays for most, the second one for least.");
-        x = claiming(new int[][] {{6, 5}, {0, 9}});
+        x = Lines.claiming(new int[][] {{6, 5}, {0, 9}});
         due("it takes what the other one CLAIMS", x.game(0, 1, 3), 5);
         due("that one", x.picks(0, 1, 3), 1);
-        x = claiming(new int[][] {{0, 9, 8}, {6, 5, 5}});
+        x = Lines.claiming(new int[][] {{0, 9, 8}, {6, 5, 5}});
         // The second one takes 8 away rather than 6.
         due("the second one, too", x.game(0, 1, 7), 4);
         x = Check.told("line 2;" + "thing at 0;".repeat(8) + "person at 0;person at 0;claims:(1-who*2)*999*999*9;");
@@ -525,7 +488,7 @@ public final class QuestionSentencesTest {
         x.days(1);
         x.open(0);
         x.mark(1, 8);
-        String seen = Seen.of(x).replaceFirst(" 4 0 8 ", " 0 0 8 ");
+        String seen = Seen.line(x);
         due("image(0)", x.image(0), 0);
         due("the other one isn't made by it", x.restore(1), -5);
         x.days(5);
@@ -535,7 +498,7 @@ public final class QuestionSentencesTest {
         due("image(1)", x.image(1), 0);
         x.days(2);
         due("restore(0)", x.restore(0), 0);
-        DOC.same("all of it", Seen.of(x), seen);
+        DOC.same("all of it", Seen.line(x), seen);
         due("nothing can be UNDONE", x.undo(1), -3);
         due("x", x.seed(1), next(9));
         due("what is done then can be", x.undo(1), 0);

@@ -3,10 +3,10 @@ final class Seen {
     private Seen() {
     }
 
-    /** What can be asked without any change: all but x and what can be undone. */
-    static String of(GampLine x) {
+    /** The line and where all is, but for x: so much of an image can be seen without any change. */
+    static String line(GampLine x) {
         StringBuilder s = new StringBuilder();
-        for (int what = 0; what < 10; what++) {
+        for (int what : new int[] {0, 1, 2, 3, 4, 5, 6, 9}) {
             s.append(x.count(what)).append(' ');
         }
         for (int t = 0; t < x.count(1); t++) {
@@ -22,6 +22,13 @@ final class Seen {
                 s.append(x.person(p, what)).append(' ');
             }
         }
+        return s.toString();
+    }
+
+    /** What can be asked without any change: all but x and what each undoing brings back. */
+    static String of(GampLine x) {
+        StringBuilder s = new StringBuilder(line(x));
+        s.append(x.count(7)).append(' ').append(x.count(8)).append(' ');
         for (int tray = 0; tray < 4; tray++) {
             for (int what = 0; what < 4; what++) {
                 s.append(x.judge(tray, what)).append(' ');

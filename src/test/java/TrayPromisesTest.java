@@ -224,17 +224,17 @@ public final class TrayPromisesTest {
         x.mark(2, 8);
         x.open(1);
         x.image(0);
-        String[] seen = {asSeen(x), ""};
+        String[] seen = {Seen.line(x), ""};
         Check.tell(x, "line 3;thing at 0;person at 1 mark 1 bears 2;person at 2;claims:5;");
         x.seed(-9);
         x.days(1);
         x.image(1);
-        seen[1] = asSeen(x);
+        seen[1] = Seen.line(x);
         for (int i : new int[] {0, 1, 1, 0, 0}) {
             Check.fill(x, 0, 1, i, -1, 399);
             due("restore(" + i + ")", x.restore(i), 0);
             x.numbers(0, 0, 0);
-            DOC.same("IMAGE " + i, asSeen(x), seen[i]);
+            DOC.same("IMAGE " + i, Seen.line(x), seen[i]);
             due("nothing can be UNDONE", x.count(7), 0);
             x.season(i, 30);
             x.days(3);
@@ -261,28 +261,6 @@ public final class TrayPromisesTest {
         due("THE TAPE isn't in it", x.count(8), 20);
         due("TRAYS aren't", x.write(1, 0, 5), 5);
         due("the latest FAULT isn't", x.fault(0), 1);
-    }
-
-    /** Without what can be undone, which an image hasn't. */
-    private static String asSeen(GampLine x) {
-        StringBuilder s = new StringBuilder();
-        for (int what : new int[] {0, 1, 2, 3, 4, 5, 6, 9}) {
-            s.append(x.count(what)).append(' ');
-        }
-        for (int t = 0; t < x.count(1); t++) {
-            for (int what = 0; what < 4; what++) {
-                s.append(x.thing(t, what)).append(' ');
-            }
-            for (int p = 0; p < x.count(2); p++) {
-                s.append(x.claims(p, t)).append(' ').append(x.burden(p, t)).append(' ');
-            }
-        }
-        for (int p = 0; p < x.count(2); p++) {
-            for (int what = 0; what < 5; what++) {
-                s.append(x.person(p, what)).append(' ');
-            }
-        }
-        return s.toString();
     }
 
     private static void restoreRefused() {

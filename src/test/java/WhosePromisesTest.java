@@ -25,33 +25,6 @@ public final class WhosePromisesTest {
         DOC.due(call, got, want);
     }
 
-    private static String law(int[][] claims) {
-        StringBuilder s = new StringBuilder("claims:0");
-        for (int p = 0; p < claims.length; p++) {
-            for (int t = 0; t < claims[p].length; t++) {
-                int v = claims[p][t];
-                if (v != 0) {
-                    s.append(v < 0 ? "-" : "+").append("if who*8+thing=").append(8 * p + t).append(" then ")
-                        .append(Math.abs(v)).append(" else 0 end");
-                }
-            }
-        }
-        return s.append(';').toString();
-    }
-
-    private static GampLine claiming(int[][] claims) {
-        return Check.told("line 2;" + "thing at 0;".repeat(claims[0].length) + "person at 0;".repeat(claims.length)
-            + law(claims));
-    }
-
-    private static GampLine holding(int[] held, int[][] claims) {
-        StringBuilder s = new StringBuilder("line 2;" + "thing at 0;".repeat(claims[0].length));
-        for (int t : held) {
-            s.append("person at 0").append(t < 0 ? "" : " holds " + t).append(';');
-        }
-        return Check.told(s + law(claims));
-    }
-
     private static final String LEFT = "line 8;thing at 0 hue 1;thing at 3 hue 2;thing at 7 hue 3;person at 4 mark 1;"
         + "person at 7 mark 1;person at 2 mark 2 holds 1;person at 0 mark 3;";
 
@@ -288,7 +261,7 @@ public final class WhosePromisesTest {
     private static void match() {
         DOC.promise(25);
         DOC.says("THE MATCHING, what 0: the sum, 10 + p: what PERSON p is given (NONE).");
-        GampLine x = claiming(new int[][] {{4, 0, 7}, {0, 0, 9}, {-3, 0, 0}, {0, 2, 8}});
+        GampLine x = Lines.claiming(new int[][] {{4, 0, 7}, {0, 0, 9}, {-3, 0, 0}, {0, 2, 8}});
         due("sum", x.match(0), 4 + 9 + 2);
         int[] given = {0, 2, -1, 1};
         for (int p = 0; p < 4; p++) {
@@ -299,8 +272,8 @@ public final class WhosePromisesTest {
         x = Check.told("line 2;person at 0;");
         due("without THINGS", x.match(0), 0);
         due("none is given", x.match(10), -1);
-        due("0 isn't above 0", claiming(new int[][] {{0}}).match(10), -1);
-        due("0 isn't above 0, beside others", claiming(new int[][] {{0, 0}, {5, 0}}).match(10), -1);
+        due("0 isn't above 0", Lines.claiming(new int[][] {{0}}).match(10), -1);
+        due("0 isn't above 0, beside others", Lines.claiming(new int[][] {{0, 0}, {5, 0}}).match(10), -1);
         x = Check.told("line 2;" + "thing at 0;".repeat(8) + "person at 0;".repeat(6) + "claims:999*999*999;");
         due("the greatest sum there is", x.match(0), 6000000);
         for (int p = 0; p < 6; p++) {
@@ -311,7 +284,7 @@ public final class WhosePromisesTest {
             due("PERSON " + p + " of like sums", x.match(10 + p), p + 2);
         }
         DOC.says("-2: what (10 and a PERSON).");
-        x = claiming(new int[][] {{1}, {1}});
+        x = Lines.claiming(new int[][] {{1}, {1}});
         for (int what : new int[] {-1, 1, 2, 9, 12, 13, 16, 20, 100, Integer.MAX_VALUE, Integer.MIN_VALUE}) {
             due("match(" + what + ")", x.match(what), -2);
         }
@@ -333,11 +306,11 @@ public final class WhosePromisesTest {
         }
         due("1 without PEOPLE", new GampLine().matchings(), 1);
         due("1 without PEOPLE, with THINGS", Check.told("line 2;thing at 0;").matchings(), 1);
-        due("none CLAIMS one", claiming(new int[][] {{1, 1}, {0, -1}}).matchings(), 0);
-        due("two CLAIM the same alone", claiming(new int[][] {{1, 0}, {1, 0}}).matchings(), 0);
-        due("crosswise", claiming(new int[][] {{1, 1, 0}, {0, 1, 1}, {1, 0, 1}}).matchings(), 2);
-        due("how much doesn't matter", claiming(new int[][] {{9, 1}, {5, 7}}).matchings(), 2);
-        GampLine x = claiming(new int[][] {{1, 1}, {1, 1}});
+        due("none CLAIMS one", Lines.claiming(new int[][] {{1, 1}, {0, -1}}).matchings(), 0);
+        due("two CLAIM the same alone", Lines.claiming(new int[][] {{1, 0}, {1, 0}}).matchings(), 0);
+        due("crosswise", Lines.claiming(new int[][] {{1, 1, 0}, {0, 1, 1}, {1, 0, 1}}).matchings(), 2);
+        due("how much doesn't matter", Lines.claiming(new int[][] {{9, 1}, {5, 7}}).matchings(), 2);
+        GampLine x = Lines.claiming(new int[][] {{1, 1}, {1, 1}});
         due("asked twice", x.matchings() + x.matchings(), 4);
         Check.tell(x, "line 2;thing at 0;person at 0;");
         due("of another line", x.matchings(), 1);
@@ -351,13 +324,13 @@ public final class WhosePromisesTest {
         DOC.promise(27);
         DOC.says("Of all ways in which as many PEOPLE as can be are given a THING that they CLAIM (above 0):"
             + " who is given one in none of these, as bits.");
-        due("each could be", claiming(new int[][] {{1}, {1}, {1}}).without(), 0);
-        due("one CLAIMS none", claiming(new int[][] {{1}, {0}, {1}}).without(), 2);
-        due("one CLAIMS below 0", claiming(new int[][] {{1}, {1}, {-1}}).without(), 4);
-        due("none CLAIMS one", claiming(new int[][] {{0}, {0}, {0}}).without(), 7);
+        due("each could be", Lines.claiming(new int[][] {{1}, {1}, {1}}).without(), 0);
+        due("one CLAIMS none", Lines.claiming(new int[][] {{1}, {0}, {1}}).without(), 2);
+        due("one CLAIMS below 0", Lines.claiming(new int[][] {{1}, {1}, {-1}}).without(), 4);
+        due("none CLAIMS one", Lines.claiming(new int[][] {{0}, {0}, {0}}).without(), 7);
         due("no THINGS", Check.told("line 2;" + "person at 0;".repeat(6)).without(), 63);
         due("no PEOPLE", Check.told("line 2;thing at 0;").without(), 0);
-        due("the least claimed, too", claiming(new int[][] {{9, 9}, {1, 0}, {9, 9}}).without(), 0);
+        due("the least claimed, too", Lines.claiming(new int[][] {{9, 9}, {1, 0}, {9, 9}}).without(), 0);
     }
 
     /** All ways there are, on lines by chance. */
@@ -372,8 +345,8 @@ public final class WhosePromisesTest {
             }
             int[] found = {-1, 0, 0};
             tryAll(claims, 0, 0, 0, found);
-            due("line " + i, claiming(claims).without(), (1 << claims.length) - 1 & ~found[1]);
-            due("ways of line " + i, claiming(claims).matchings(), found[2]);
+            due("line " + i, Lines.claiming(claims).without(), (1 << claims.length) - 1 & ~found[1]);
+            due("ways of line " + i, Lines.claiming(claims).matchings(), found[2]);
         }
     }
 
@@ -400,14 +373,14 @@ public final class WhosePromisesTest {
         DOC.promise(28);
         DOC.says("What a THING fetches, what 0: who CLAIMS it most, above 0, the first (NONE),"
             + " 1: how much another one does most, 0 at least (0 without one).");
-        GampLine x = claiming(new int[][] {{4, 0, -1, 7, 1, -5}, {9, 0, -2, 7, 0, 3}, {9, 0, -1, 5, 0, -1}});
+        GampLine x = Lines.claiming(new int[][] {{4, 0, -1, 7, 1, -5}, {9, 0, -2, 7, 0, 3}, {9, 0, -1, 5, 0, -1}});
         int[] who = {1, -1, -1, 0, 0, 1};
         int[] much = {9, 0, 0, 7, 0, 0};
         for (int t = 0; t < 6; t++) {
             due("fetches(" + t + ", 0)", x.fetches(t, 0), who[t]);
             due("fetches(" + t + ", 1)", x.fetches(t, 1), much[t]);
         }
-        x = claiming(new int[][] {{5}});
+        x = Lines.claiming(new int[][] {{5}});
         due("one alone", x.fetches(0, 0), 0);
         due("without another one", x.fetches(0, 1), 0);
         x = Check.told("line 2;thing at 0;");
@@ -428,7 +401,7 @@ public final class WhosePromisesTest {
     private static void trade() {
         DOC.promise(29);
         DOC.says("TRADE: the THING a PERSON has then.");
-        GampLine x = holding(new int[] {3, -1, 0, 1}, new int[][] {{5, 0, 0, 0}, {9, 9, 9, 9}, {0, 5, 0, 0}, {0, 0, 9, 5}});
+        GampLine x = Lines.holding(new int[] {3, -1, 0, 1}, new int[][] {{5, 0, 0, 0}, {9, 9, 9, 9}, {0, 5, 0, 0}, {0, 0, 9, 5}});
         due("trade(0)", x.trade(0), 0);
         due("trade(2)", x.trade(2), 1);
         due("trade(3): 2 isn't HELD", x.trade(3), 3);
@@ -474,7 +447,7 @@ public final class WhosePromisesTest {
             due("those who HOLD one alone", x.rounds(), 5 - p);
         }
         due("without PEOPLE", new GampLine().rounds(), 0);
-        due("without holders", claiming(new int[][] {{1}}).rounds(), 0);
+        due("without holders", Lines.claiming(new int[][] {{1}}).rounds(), 0);
     }
 
     private static void traders() {
@@ -487,7 +460,7 @@ public final class WhosePromisesTest {
         x.leave(0);
         due("5 keeps its own then", x.traders(), 30);
         due("without PEOPLE", new GampLine().traders(), 0);
-        due("who HOLDS none", claiming(new int[][] {{1}, {1}}).traders(), 0);
+        due("who HOLDS none", Lines.claiming(new int[][] {{1}, {1}}).traders(), 0);
         for (int p = 0; p < 6; p++) {
             due("as trade() tells", x.traders() >> p & 1, x.trade(p) != x.person(p, 3) ? 1 : 0);
         }
@@ -513,15 +486,15 @@ public final class WhosePromisesTest {
             }
         }
         due("the least of all", sixHolders("if who=thing then 0 else 1 end").bargain(), 1);
-        due("the second HOLDS THING 0", holding(new int[] {1, 0}, new int[][] {{2, 1}, {1, 2}}).bargain(), 1);
-        due("one who HOLDS none would like to", holding(new int[] {-1, 0}, new int[][] {{5}, {-5}}).bargain(), -1);
-        due("one who HOLDS none would like to", holding(new int[] {0, -1}, new int[][] {{-5}, {5}}).bargain(), -1);
+        due("the second HOLDS THING 0", Lines.holding(new int[] {1, 0}, new int[][] {{2, 1}, {1, 2}}).bargain(), 1);
+        due("one who HOLDS none would like to", Lines.holding(new int[] {-1, 0}, new int[][] {{5}, {-5}}).bargain(), -1);
+        due("one who HOLDS none would like to", Lines.holding(new int[] {0, -1}, new int[][] {{-5}, {5}}).bargain(), -1);
         due("the least of two", sixHolders("if who+thing=5 then 1 else 0 end").bargain(), 5);
-        due("below 0", holding(new int[] {0, 1}, new int[][] {{-2, -1}, {-1, -2}}).bargain(), 1);
+        due("below 0", Lines.holding(new int[] {0, 1}, new int[][] {{-2, -1}, {-1, -2}}).bargain(), 1);
         DOC.says("NONE: none do.");
         due("alike isn't more", sixHolders("1").bargain(), -1);
         due("all the same one", sixHolders("thing").bargain(), -1);
-        due("without holders", claiming(new int[][] {{1, 2}, {2, 1}}).bargain(), -1);
+        due("without holders", Lines.claiming(new int[][] {{1, 2}, {2, 1}}).bargain(), -1);
         due("without PEOPLE", new GampLine().bargain(), -1);
     }
 }

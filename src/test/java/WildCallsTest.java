@@ -48,45 +48,19 @@ public final class WildCallsTest {
                 int odd = ODD[random.nextInt(random.nextBoolean() ? 10 : ODD.length)];
                 numbers[k] = m.getParameterTypes()[k] == long.class ? (Object) (long) odd : (Object) odd;
             }
-            String before = seen(x);
+            String before = Seen.of(x);
             try {
                 long answer = ((Number) m.invoke(x, numbers)).longValue();
                 boolean refused = answer <= -2 && !m.getName().equals("seed") && !m.getName().equals("write")
                     && !m.getName().equals("line");
                 if (refused) {
-                    CHECK.isTrue("a refused " + m.getName() + " changes nothing", before.equals(seen(x)));
+                    CHECK.isTrue("a refused " + m.getName() + " changes nothing", before.equals(Seen.of(x)));
                 }
             } catch (InvocationTargetException e) {
                 e.printStackTrace();
                 CHECK.isTrue(m.getName() + " throws " + e.getCause(), false);
             }
         }
-    }
-
-    /** All that calls tell of an object. */
-    private static String seen(GampLine x) {
-        StringBuilder s = new StringBuilder();
-        for (int what = 0; what < 10; what++) {
-            s.append(x.count(what)).append(' ');
-        }
-        for (int t = 0; t < 8; t++) {
-            for (int what = 0; what < 4; what++) {
-                s.append(x.thing(t, what)).append(' ');
-            }
-            for (int p = 0; p < 6; p++) {
-                s.append(x.claims(p, t)).append(' ').append(x.burden(p, t)).append(' ');
-            }
-        }
-        for (int p = 0; p < 6; p++) {
-            for (int what = 0; what < 5; what++) {
-                s.append(x.person(p, what)).append(' ');
-            }
-        }
-        for (int tray = 0; tray < 4; tray++) {
-            s.append(x.judge(tray, 0)).append(' ').append(x.judge(tray, 1)).append(' ');
-            s.append(x.chance(tray, 0, 0)).append(' ').append(x.marks(tray, 0)).append(' ');
-        }
-        return s.append(x.fault(0)).append(' ').append(x.fault(1)).toString();
     }
 
     /** One object is small enough for hundreds of them in one room, and grows by no call. */
