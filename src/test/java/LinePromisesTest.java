@@ -38,6 +38,9 @@ public final class LinePromisesTest {
         for (int p = 0; p < 6; p++) {
             due("no PERSON " + p, x.person(p, 0), -2);
         }
+        due("no THING is taken", x.days(99), 0);
+        due("none goes to the OFFICE", x.count(3), 0);
+        due("none is HELD", x.count(4), 0);
         Check.tell(x, LINE);
         x.days(3);
         x.numbers(0, 0, 1);

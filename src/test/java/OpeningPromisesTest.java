@@ -94,8 +94,19 @@ public final class OpeningPromisesTest {
         order(Lines.opener("", 99, 9, 9, 9, 9, 9, 9, 9, 9), 255, 0, 1, 2, 3, 4, 5, 6, 7);
         order(Lines.opener("opens:if thing=3 then 1 else if borne>0 then 2 else 9 end end;", 9, 0, 0, 0, 0), 15, 3, 0, 1, 2);
         order(Lines.opener("opens:if borne=0 then 9-thing else 9 end;", 9, 0, 0, 0, 0), 15, 0, 1, 2, 3);
+        // 1 must stand behind 2 alone, 0 behind both.
+        GampLine x = Lines.opener("opens:if thing=2 then 1 else if borne+thing=2 then thing else 99 end end;", 9, 0, 0, 0);
+        order(x, 4, 2);
+        order(x, 6, 2, 1);
+        order(x, 7, 2, 1, 0);
+        x = Lines.opener("opens:if borne>0 then 99-weight else 1 end;", 99, 1, 9, 9);
+        order(x, 6, 1, 2);
+        order(x, 7, 0, 1, 2);
+        x = Lines.opener("opens:if thing=0 and borne<4 then 99 else 2 end;", 9, 0, 0, 0, 0, 0);
+        order(x, 30, 1, 2, 3, 4);
+        order(x, 7, 1, 2, 0);
         // By its mark, by who it is.
-        GampLine x = Check.told("line 2;thing at 0 weight 1;thing at 0 weight 8;thing at 0 weight 9;person at 0;person at 0 bears 9;"
+        x = Check.told("line 2;thing at 0 weight 1;thing at 0 weight 8;thing at 0 weight 9;person at 0;person at 0 bears 9;"
             + "opens:weight+mark;");
         order(x, 7, 0, 1, 2);
         x.mark(0, 1);

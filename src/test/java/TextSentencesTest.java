@@ -89,6 +89,10 @@ public final class TextSentencesTest {
         fault(padded("line 5;", "wet 10", 900), 2, 900);
         fault(padded("line 5;", "wet 10?", 900), 1, 899);
         fault(padded("line 5;", "wet 11;", 900), 3, 897);
+        fault(padded("line 5;", "we", 900), 2, 898);
+        fault(padded("line 5;", "wet", 900), 2, 900);
+        fault(padded("line 5;", "wet 1", 900), 2, 900);
+        fault(padded("line 5;", "wet 1000", 900), 1, 896);
         String head = "line 2;thing at 0;person at 0;claims:1";
         int more = (900 - head.length() - 1) / 2;
         x = fine(head + "+1".repeat(more) + " ".repeat(900 - head.length() - 1 - 2 * more) + ";", 4);
@@ -472,6 +476,16 @@ public final class TextSentencesTest {
         due("no law of claims in another text", x.claims(0, 0), 1);
         due("no law of opens in another text", x.burden(0, 0), 7);
         x = new GampLine();
+        for (int i = 1; i < 12; i++) {
+            Check.tell(x, "line 2;thing at 0;person at 0;claims:if not [1=1 and 2=2] then 5*3 else 6-if 1<2 then 3 else 2 end end;");
+            due("a long law", x.claims(0, 0), 3);
+            Check.tell(x, "line 2;thing at 0;person at 0;claims:1" + "+1".repeat(i) + ";");
+            due("a shorter one in another text", x.claims(0, 0), 1 + i);
+            Check.tell(x, "line 2;thing at 0;person at 0;opens:if not [1=1 and 2=2] then 5*3 else 6-if 1<2 then 3 else 2 end end;");
+            due("a long law", x.burden(0, 0), 3);
+            Check.tell(x, "line 2;thing at 0;person at 0;opens:if 1=1 then 1 else 0 end" + "+1".repeat(i) + ";");
+            due("another one in another text", x.burden(0, 0), 1 + i);
+        }
         for (int i = 0; i < 12; i++) {
             Check.tell(x, "line 2;thing at 0;person at 0;claims:" + i + "+1".repeat(100) + ";opens:" + i + "+1".repeat(50) + ";");
             due("the law of text " + i, x.claims(0, 0), i + 100);

@@ -273,6 +273,11 @@ public final class WhosePromisesTest {
         due("without THINGS", x.match(0), 0);
         due("none is given", x.match(10), -1);
         due("0 isn't above 0", Lines.claiming(new int[][] {{0}}).match(10), -1);
+        x = Lines.claiming(new int[][] {{0, 5}, {0, 0}});
+        due("of two THINGS", x.match(10), 1);
+        Check.tell(x, "line 2;thing at 0;person at 0;person at 0;claims:who*5;");
+        due("of one THING, behind that", x.match(10), -1);
+        due("of one THING, behind that", x.match(11), 0);
         due("0 isn't above 0, beside others", Lines.claiming(new int[][] {{0, 0}, {5, 0}}).match(10), -1);
         x = Check.told("line 2;" + "thing at 0;".repeat(8) + "person at 0;".repeat(6) + "claims:999*999*999;");
         due("the greatest sum there is", x.match(0), 6000000);
@@ -380,6 +385,9 @@ public final class WhosePromisesTest {
             due("fetches(" + t + ", 0)", x.fetches(t, 0), who[t]);
             due("fetches(" + t + ", 1)", x.fetches(t, 1), much[t]);
         }
+        x = Lines.claiming(new int[][] {{4}, {9}});
+        due("the second", x.fetches(0, 0), 1);
+        due("another one is the first", x.fetches(0, 1), 4);
         x = Lines.claiming(new int[][] {{5}});
         due("one alone", x.fetches(0, 0), 0);
         due("without another one", x.fetches(0, 1), 0);
